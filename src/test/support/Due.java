@@ -3,8 +3,14 @@ final class Due {
   private static final int MOST_PRINTED = 50;
 
   private static long wrong = 0;
+  private static String about = "";
 
   private Due() {
+  }
+
+  /** Names the sentence of the document that the next answers are held to. */
+  static void sentence(String words) {
+    about = "\"" + words + "\": ";
   }
 
   static void is(String call, long got, long want) {
@@ -13,7 +19,7 @@ final class Due {
     }
     wrong++;
     if (wrong <= MOST_PRINTED) {
-      System.out.println(call + " answered " + got + ", due is " + want);
+      System.out.println(about + call + " answered " + got + ", due is " + want);
     }
   }
 

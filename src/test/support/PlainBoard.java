@@ -33,6 +33,15 @@ final class PlainBoard {
     return col >= 0 && col < COLUMNS && row >= 0 && row < ROWS;
   }
 
+  static long wordOfLine(int index) {
+    int[] line = LINES.get(index);
+    long word = 0;
+    for (int k = 0; k < 4; k++) {
+      word += 1L << ((line[0] + k * line[2]) * 7 + line[1] + k * line[3]);
+    }
+    return word;
+  }
+
   int toMove() {
     return moves % 2 == 0 ? 1 : 2;
   }
@@ -45,6 +54,12 @@ final class PlainBoard {
     owner[col][height(col)] = mover;
     moves++;
     return linesOf(mover).isEmpty() ? 1 : 2;
+  }
+
+  /** Undoes the latest drop, which was into this column. */
+  void takeBack(int col) {
+    owner[col][height(col) - 1] = 0;
+    moves--;
   }
 
   int height(int col) {
