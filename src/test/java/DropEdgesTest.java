@@ -1,12 +1,15 @@
 /** The edges that promise 2 names for refused and accepted calls; LineEdgesTest has the lines. */
 public final class DropEdgesTest {
   private static final int GAMES = 300;
+  // Enough to fill the board, and to go on for a while when it is full.
+  private static final int CALLS = 150;
 
   private static final Numbers numbers = new Numbers();
 
   public static void main(String[] args) {
     everyWrongColumn();
-    everyHeightOfEveryColumn();
+    fullColumnIsRefused();
+    otherwiseAccepted();
     theOrderOfTheCases();
     refusedCallChangesNothing();
     theSamePlayerIsStillToMove();
@@ -50,16 +53,30 @@ public final class DropEdgesTest {
     return false;
   }
 
-  private static void everyHeightOfEveryColumn() {
-    Due.sentence("Otherwise, if `height(col) == 6` (the column is full), the answer is 0."
-        + " Otherwise the drop is accepted.");
+  private static void fullColumnIsRefused() {
+    Due.sentence("Otherwise, if `height(col) == 6` (the column is full), the answer is 0.");
+    for (int full = 0; full < 7; full++) {
+      ConnectFour game = new ConnectFour();
+      for (int row = 0; row < 6; row++) {
+        game.drop(full);
+      }
+      // Whatever lies beside it, and whoever is to move.
+      for (int calls = 0; calls < CALLS; calls++) {
+        Due.is("drop(" + full + ") into the full column", game.drop(full), 0);
+        game.drop(numbers.next(7));
+      }
+    }
+  }
+
+  private static void otherwiseAccepted() {
+    Due.sentence("Otherwise the drop is accepted.");
     for (int i = 0; i < GAMES; i++) {
       ConnectFour game = new ConnectFour();
-      for (int calls = 0; calls < 150; calls++) {
+      for (int calls = 0; calls < CALLS; calls++) {
         int col = numbers.next(7);
         int height = game.height(col);
-        boolean accepted = game.drop(col) != 0;
-        Due.holds("drop(" + col + ") at height " + height + " is as due", accepted == (height < 6));
+        int answer = game.drop(col);
+        Due.holds("drop(" + col + ") at height " + height + " is accepted", answer != 0 || height == 6);
       }
     }
   }
@@ -89,7 +106,7 @@ public final class DropEdgesTest {
         + " `moves()` and `key()` answer as before");
     for (int i = 0; i < GAMES; i++) {
       ConnectFour game = new ConnectFour();
-      while (game.moves() < 42) {
+      for (int calls = 0; calls < CALLS; calls++) {
         refusedInThisState(game);
         game.drop(numbers.next(7));
       }
@@ -138,7 +155,7 @@ public final class DropEdgesTest {
     boolean[][] placed = new boolean[3][48];
     for (int i = 0; i < GAMES; i++) {
       ConnectFour game = new ConnectFour();
-      while (game.moves() < 42) {
+      for (int calls = 0; calls < CALLS; calls++) {
         Seen before = new Seen(game);
         int mover = before.moves % 2 == 0 ? 1 : 2;
         int col = numbers.next(7);
@@ -161,7 +178,7 @@ public final class DropEdgesTest {
     Due.sentence("Then `height(col)` and `moves()` have each grown by exactly 1");
     for (int i = 0; i < GAMES; i++) {
       ConnectFour game = new ConnectFour();
-      while (game.moves() < 42) {
+      for (int calls = 0; calls < CALLS; calls++) {
         int col = numbers.next(7);
         int height = game.height(col);
         int moves = game.moves();
@@ -191,7 +208,7 @@ public final class DropEdgesTest {
         + " and the heights of all other columns do not change.");
     for (int i = 0; i < GAMES; i++) {
       ConnectFour game = new ConnectFour();
-      while (game.moves() < 42) {
+      for (int calls = 0; calls < CALLS; calls++) {
         Seen before = new Seen(game);
         int col = numbers.next(7);
         game.drop(col);

@@ -1,6 +1,8 @@
 /** The edges that the section "What it is" names. */
 public final class WhatItIsTest {
-  private static final int GAMES = 500;
+  private static final int GAMES = 300;
+  // Enough to fill the board, and to go on for a while when it is full.
+  private static final int CALLS = 150;
 
   private static final Numbers numbers = new Numbers();
 
@@ -53,7 +55,7 @@ public final class WhatItIsTest {
         + " and so do all bits above bit 47, the cell (6, 5).");
     for (int i = 0; i < GAMES; i++) {
       ConnectFour game = new ConnectFour();
-      while (game.moves() < 42) {
+      for (int calls = 0; calls < CALLS; calls++) {
         // Full columns and those beside the board are tried as well.
         int col = numbers.next(9) - 1;
         game.drop(col);
@@ -81,7 +83,7 @@ public final class WhatItIsTest {
         + " and the second player when it is odd.");
     for (int i = 0; i < GAMES; i++) {
       ConnectFour game = new ConnectFour();
-      while (game.moves() < 42) {
+      for (int calls = 0; calls < CALLS; calls++) {
         Seen before = new Seen(game);
         int mover = before.moves % 2 == 0 ? 1 : 2;
         // Also a refused call has a mover, and must not make it another one.
@@ -103,11 +105,11 @@ public final class WhatItIsTest {
         + " for any argument values and in any state.");
     for (int i = 0; i < GAMES; i++) {
       ConnectFour game = new ConnectFour();
-      for (int calls = 0; game.moves() < 42; calls++) {
+      for (int calls = 0; calls < CALLS; calls++) {
         everyArgument(game);
         game.drop((calls + numbers.next(3)) % 7);
       }
-      everyArgument(game);
+      Due.is("moves() of the full board", game.moves(), 42);
       for (int col = 0; col < 7; col++) {
         Due.is("full board, drop(" + col + ")", game.drop(col), 0);
       }
